@@ -60,10 +60,11 @@ public final class LoopBoard {
     private final Ways ways;
 
     public LoopBoard() {
-        ground = new Board();
-        Front front = new Front(ground);
-        sheet = new Sheet(ground, front);
-        ways = new Ways(ground, new Moves(ground, front));
+        Board board = new Board();
+        Front front = new Front(board);
+        ground = board;
+        sheet = new Sheet(board, front);
+        ways = new Ways(board, new Moves(board, front));
     }
 
     public boolean board(int wide, int high, boolean arcs) {
@@ -737,7 +738,8 @@ public final class LoopBoard {
         private void solveCell(int cell) {
             clear(cell);
             int most = 0;
-            for (int at = moves.start(cell); at < moves.start(cell + 1); at++) {
+            int end = moves.start(cell + 1);
+            for (int at = moves.start(cell); at < end; at++) {
                 if (board.permits(cell, moves.tileOf(at))) {
                     most = Math.max(most, moves.closes(at));
                     addWays(cell, at);
@@ -796,7 +798,8 @@ public final class LoopBoard {
             }
             reach(cell);
             long sum = 0;
-            for (int at = moves.start(cell); at < moves.start(cell + 1); at++) {
+            int end = moves.start(cell + 1);
+            for (int at = moves.start(cell); at < end; at++) {
                 int from = moves.from(at);
                 if (moves.tileOf(at) == tile && from < Front.FRONTS) {
                     sum += reaching[from] * waysFrom(cell + 1, moves.to(at), true, NONE);
@@ -811,7 +814,8 @@ public final class LoopBoard {
             reaching[0] = 1;
             for (int cell = 0; cell < target; cell++) {
                 unreach(reachingNext);
-                for (int at = moves.start(cell); at < moves.start(cell + 1); at++) {
+                int end = moves.start(cell + 1);
+                for (int at = moves.start(cell); at < end; at++) {
                     int from = moves.from(at);
                     int to = moves.to(at);
                     if (from < Front.FRONTS && to < Front.FRONTS && board.permits(cell, moves.tileOf(at))) {
@@ -838,7 +842,8 @@ public final class LoopBoard {
             int due = loops;
             int front = 0;
             for (int cell = 0; cell < cells; cell++) {
-                for (int at = moves.start(cell); at < moves.start(cell + 1); at++) {
+                int end = moves.start(cell + 1);
+                for (int at = moves.start(cell); at < end; at++) {
                     if (moves.from(at) != front || !board.permits(cell, moves.tileOf(at))) {
                         continue;
                     }
@@ -864,7 +869,8 @@ public final class LoopBoard {
             int front = 0;
             for (int cell = 0; cell < cells; cell++) {
                 int laid = sheet.at(cell);
-                for (int at = moves.start(cell); at < moves.start(cell + 1); at++) {
+                int end = moves.start(cell + 1);
+                for (int at = moves.start(cell); at < end; at++) {
                     int tile = moves.tileOf(at);
                     if (moves.from(at) != front || tile > laid || !board.permits(cell, tile)) {
                         continue;

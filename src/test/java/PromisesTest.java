@@ -167,6 +167,9 @@ public final class PromisesTest {
             due(5, "count(" + loops + ") of 4 by 4 with arcs", bench.count(loops), arcs[loops]);
         }
         due(5, "count(NONE) with arcs", bench.count(NONE), 148110720);
+        for (int loops = 13; loops < 30000; loops += loops < 300 ? 1 : 997) {
+            due(5, "count(" + loops + ") with arcs", bench.count(loops), 0);
+        }
     }
 
     private static void weigh() {
@@ -178,6 +181,15 @@ public final class PromisesTest {
         bench.board(4, 4, true);
         due(6, "weigh(least)", bench.weigh(Integer.MIN_VALUE), 1 + 19783204L * Integer.MIN_VALUE
             + 43813994L * Integer.MIN_VALUE * Integer.MIN_VALUE);
+        for (int n = -3; n <= 3; n++) {
+            long sum = 0;
+            long power = 1;
+            for (int loops = 0; loops <= 12; loops++) {
+                sum += power * bench.count(loops);
+                power *= n;
+            }
+            due(6, "weigh(" + n + ") of 4 by 4 with arcs", bench.weigh(n), sum);
+        }
         bench.allow(NONE, 0, 0);
         due(6, "weigh(5) without a filling", bench.weigh(5), 0);
     }
