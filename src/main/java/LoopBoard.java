@@ -715,7 +715,7 @@ public final class LoopBoard {
                 moves.build();
                 solveEnd();
             }
-            for (int cell = solvedFrom - 1; cell >= 0; cell--) {
+            for (int cell = Math.min(solvedFrom, MOST_CELLS) - 1; cell >= 0; cell--) {
                 solveCell(cell);
             }
             solvedFrom = 0;
