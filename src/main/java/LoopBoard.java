@@ -731,7 +731,10 @@ public final class LoopBoard {
             clear(end);
             tops[end] = 0;
             // Behind the last cell no line leads on: that is the front without any, the first one.
-            ways[index(end, 0, 0)] = 1;
+            int none = index(end, 0, 0);
+            if (none >= 0 && none < ways.length) {
+                ways[none] = 1;
+            }
             solvedFrom = end;
         }
 
@@ -763,7 +766,7 @@ public final class LoopBoard {
 
         private void clear(int cell) {
             int end = Math.min(index(cell + 1, 0, 0), ways.length);
-            for (int at = index(cell, 0, 0); at < end; at++) {
+            for (int at = Math.max(index(cell, 0, 0), 0); at < end; at++) {
                 ways[at] = 0;
             }
         }

@@ -26,6 +26,12 @@ public final class LanguageTest {
         "hashCode", "toString", "protected"
     };
 
+    private static final Set<String> OWN = new TreeSet<>(Arrays.asList(
+        "LoopBoard", "Board", "Front", "Moves", "Ways", "Sheet"));
+    private static final Set<String> LIBRARY = new TreeSet<>(Arrays.asList(
+        "Math.min", "Math.max", "Integer.bitCount", "System.arraycopy"));
+    private static final Set<String> ROWS = new TreeSet<>(Arrays.asList("int", "long", "boolean"));
+
     private static int failures = 0;
 
     private static void fail(String what) {
@@ -108,9 +114,46 @@ public final class LanguageTest {
         }
     }
 
+    /** Of rule 4 the class uses these alone; what it makes are its own objects, and rows of numbers. */
+    private static void checkLibrary(String code) {
+        Matcher calls = Pattern.compile("(?<![\\w.])([A-Z]\\w*)\\.([a-z]\\w*)\\(").matcher(code);
+        while (calls.find()) {
+            if (!OWN.contains(calls.group(1)) && !LIBRARY.contains(calls.group(1) + "." + calls.group(2))) {
+                fail("not in the library: " + calls.group());
+            }
+        }
+        Matcher made = Pattern.compile("\\bnew (\\w+)\\s*([\\[(])").matcher(code);
+        while (made.find()) {
+            boolean row = made.group(2).equals("[");
+            if (row ? !ROWS.contains(made.group(1)) : !OWN.contains(made.group(1))) {
+                fail("not made here: " + made.group());
+            }
+        }
+    }
+
+    /** Rule 5: a static row is written out, and nothing is written into it later. */
+    private static void checkStatics(String code) {
+        if (Pattern.compile("\\bstatic\\s*\\{").matcher(code).find()) {
+            fail("a static initialiser block");
+        }
+        Matcher rows = Pattern.compile("static final \\w+\\[\\] (\\w+) = (.)").matcher(code);
+        while (rows.find()) {
+            String name = rows.group(1);
+            if (!rows.group(2).equals("{")) {
+                fail("not written out: " + name);
+            }
+            Pattern written = Pattern.compile("\\b" + name + "\\[[^\\]]*\\]\\s*([-+*/|&^]|<<|>>)?=(?!=)");
+            if (written.matcher(code).find()) {
+                fail("written into: " + name);
+            }
+        }
+    }
+
     private static void checkSource() throws Exception {
         String source = Files.readString(Path.of("src/main/java/LoopBoard.java"));
         String code = source.replaceAll("(?s)/\\*.*?\\*/", "").replaceAll("//[^\n]*", "");
+        checkLibrary(code);
+        checkStatics(code);
         for (String word : FORBIDDEN) {
             String ahead = word.equals("Exact") ? "" : "\\b";
             String pattern = Character.isLetter(word.charAt(0)) ? ahead + word + "\\b" : Pattern.quote(word);
